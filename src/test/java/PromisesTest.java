@@ -186,7 +186,8 @@ public final class PromisesTest {
         due("13: logWith(1, 1, 59, 60)", x.logWith(1, 1, 59, 60), 59);
         due("13: logWith(1, 2, 59, 60)", x.logWith(1, 2, 59, 60), NONE);
         due("13: logWith(2, 7, 59, 60)", x.logWith(2, 7, 59, 60), 59);
-        due("13: logWith(7, 1, 58, 59) at 2039", at(2039).logWith(7, 1, 58, 59), 2038 * 59 - leastBelow(2038, 59));
+        due("13: logWith(7, 1, 58, 59) at 2039", at(2039).logWith(7, 1, 58, 59), 71330);
+        due("13: logWith(7, 874, 58, 59) at 2039", at(2039).logWith(7, 874, 58, 59), 120241);
         int[] notUnits = {MIN, -1, 0, 13, 14, MAX};
         for (int bad : notUnits) {
             due("13: logWith(" + bad + ", 1, 0, 1)", x.logWith(bad, 1, 0, 1), BAD_ARG);
@@ -202,15 +203,6 @@ public final class PromisesTest {
             due("13: logWith(2, 1, " + r + ", 12)", x.logWith(2, 1, r, 12), BAD_ARG);
             due("13: logWith(1, 2, " + r + ", 12)", x.logWith(1, 2, r, 12), BAD_ARG);
         }
-    }
-
-    /** The least multiple of n that is 1 modulo m; n times m less it is the least that is m - 1. */
-    private static int leastBelow(int n, int m) {
-        int x = n;
-        while (x % m != 1) {
-            x += n;
-        }
-        return x;
     }
 
     private static void common() {
