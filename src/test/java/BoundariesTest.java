@@ -131,7 +131,12 @@ public final class BoundariesTest {
         DlogSolver x = at(p);
         same("P = " + p + ": " + call.text(), call.on(x), want);
         same("P = " + p + ": " + call.text() + " once more", call.on(x), want);
-        same("P = " + p + ": modulus() after " + call.text(), x.modulus(), p);
+        int modulus = x.modulus();
+        same("P = " + p + ": modulus() after " + call.text(), modulus, p);
+        if (modulus != p) {
+            // With a huge P that was let in by mistake, the calls below would take hours.
+            return;
+        }
         DlogSolver untouched = at(p);
         for (Call next : callsOfEachKind(p)) {
             same("P = " + p + ": " + next.text() + " after " + call.text(), next.on(x), next.on(untouched));
@@ -493,8 +498,11 @@ public final class BoundariesTest {
     // ---- Promise 4
 
     private static void nextPrimeIsTheLeastGreaterPrime() {
-        DlogSolver x = new DlogSolver();
+        // One object goes through all of them; asked for its modulus too, it would be past its 512 calls.
+        DlogSolver walker = new DlogSolver();
         for (int i = 1; i < PRIMES.size(); i++) {
+            due(walker, nextPrime(), PRIMES.get(i));
+            DlogSolver x = at(PRIMES.get(i - 1));
             due(x, nextPrime(), PRIMES.get(i));
             due(x, modulus(), PRIMES.get(i));
         }
